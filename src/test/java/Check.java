@@ -2,15 +2,21 @@
 final class Check {
     private static final int MOST_PRINTED = 50;
     private static int wrong = 0;
+    private static String sentence = "";
 
     private Check() {
+    }
+
+    /** The sentence of the document that the answers from here on are held against. */
+    static void sentence(String words) {
+        sentence = words + ": ";
     }
 
     static void due(String call, int got, int want) {
         if (got != want) {
             wrong++;
             if (wrong <= MOST_PRINTED) {
-                System.out.println(call + " answered " + got + ", due is " + want);
+                System.out.println(sentence + call + " answered " + got + ", due is " + want);
             }
         }
     }

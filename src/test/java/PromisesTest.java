@@ -1,8 +1,7 @@
 /** Each promise by hand: ordinary inputs, the edges that the document names, wrong inputs. */
 public final class PromisesTest {
-    private static final int MIN = Integer.MIN_VALUE;
-    private static final int MAX = Integer.MAX_VALUE;
-    private static final int[] NO_REGISTERS = {-1, 6, 7, 64, -6, MIN, MAX};
+    private static final int MIN = Registers.MIN;
+    private static final int MAX = Registers.MAX;
 
     public static void main(String[] args) {
         newObject();
@@ -26,28 +25,6 @@ public final class PromisesTest {
         Check.end();
     }
 
-    private static KnownBits with(int... valuesAndMasks) {
-        KnownBits bits = new KnownBits();
-        for (int k = 0; k < valuesAndMasks.length; k += 2) {
-            bits.set(k / 2, valuesAndMasks[k], valuesAndMasks[k + 1]);
-        }
-        return bits;
-    }
-
-    /** Six patterns, all unlike each other and unlike a new register's. */
-    private static KnownBits sixPatterns() {
-        return with(1, 6, 2, 24, 3, 32, 4, 3, 5, 48, 6, 9);
-    }
-
-    private static void sixPatternsStand(String when, KnownBits bits) {
-        Check.pattern(when, bits, 0, 1, 6);
-        Check.pattern(when, bits, 1, 2, 24);
-        Check.pattern(when, bits, 2, 3, 32);
-        Check.pattern(when, bits, 3, 4, 3);
-        Check.pattern(when, bits, 4, 5, 48);
-        Check.pattern(when, bits, 5, 6, 9);
-    }
-
     // Promise 1
 
     private static void newObject() {
@@ -60,10 +37,10 @@ public final class PromisesTest {
     }
 
     private static void objectsAreApart() {
-        KnownBits first = sixPatterns();
+        KnownBits first = Registers.six();
         KnownBits second = new KnownBits();
         second.set(0, 63, 0);
-        sixPatternsStand("apart", first);
+        Registers.sixStand("apart", first);
         Check.pattern("apart", second, 1, 0, 0);
     }
 
@@ -86,11 +63,11 @@ public final class PromisesTest {
         Check.due("set -1, 1", bits.set(4, -1, 1), 0);
         Check.pattern("set -1, 1", bits, 4, 62, 1);
 
-        KnownBits refused = sixPatterns();
-        for (int r : NO_REGISTERS) {
+        KnownBits refused = Registers.six();
+        for (int r : Registers.OUT_OF_RANGE) {
             Check.due("set refused " + r, refused.set(r, 63, 0), -1);
         }
-        sixPatternsStand("set refused", refused);
+        Registers.sixStand("set refused", refused);
     }
 
     // Promise 3
@@ -107,26 +84,26 @@ public final class PromisesTest {
     }
 
     private static void combine() {
-        combined(0, with(62, 0, 5, 0), 3, 0);
-        combined(0, with(1, 2, 1, 0), 0, 6);
-        combined(0, with(0, 32, 0, 32), 0, 32);
-        combined(0, with(63, 0, 0, 1), 0, 63);
-        combined(1, with(2, 0, 5, 0), 61, 0);
-        combined(1, with(0, 0, 0, 1), 0, 63);
-        combined(1, with(8, 1, 8, 0), 0, 1);
-        combined(2, with(44, 0, 6, 0), 4, 0);
-        combined(2, with(12, 3, 6, 0), 4, 2);
-        combined(3, with(44, 0, 6, 0), 46, 0);
-        combined(3, with(12, 3, 6, 0), 14, 1);
-        combined(4, with(44, 0, 6, 0), 42, 0);
-        combined(4, with(12, 3, 6, 0), 8, 3);
-        combined(5, with(44, 0, 6, 0), 4, 42);
-        combined(5, with(12, 3, 6, 0), 4, 11);
-        combined(5, with(9, 0, 9, 0), 9, 0);
-        combined(6, with(8, 5, 1, 12), 9, 4);
-        combined(6, with(8, 5, 9, 0), 9, 0);
-        combined(6, with(0, 63, 5, 56), 5, 56);
-        KnownBits empty = with(8, 5, 2, 12, 33, 2);
+        combined(0, Registers.with(62, 0, 5, 0), 3, 0);
+        combined(0, Registers.with(1, 2, 1, 0), 0, 6);
+        combined(0, Registers.with(0, 32, 0, 32), 0, 32);
+        combined(0, Registers.with(63, 0, 0, 1), 0, 63);
+        combined(1, Registers.with(2, 0, 5, 0), 61, 0);
+        combined(1, Registers.with(0, 0, 0, 1), 0, 63);
+        combined(1, Registers.with(8, 1, 8, 0), 0, 1);
+        combined(2, Registers.with(44, 0, 6, 0), 4, 0);
+        combined(2, Registers.with(12, 3, 6, 0), 4, 2);
+        combined(3, Registers.with(44, 0, 6, 0), 46, 0);
+        combined(3, Registers.with(12, 3, 6, 0), 14, 1);
+        combined(4, Registers.with(44, 0, 6, 0), 42, 0);
+        combined(4, Registers.with(12, 3, 6, 0), 8, 3);
+        combined(5, Registers.with(44, 0, 6, 0), 4, 42);
+        combined(5, Registers.with(12, 3, 6, 0), 4, 11);
+        combined(5, Registers.with(9, 0, 9, 0), 9, 0);
+        combined(6, Registers.with(8, 5, 1, 12), 9, 4);
+        combined(6, Registers.with(8, 5, 9, 0), 9, 0);
+        combined(6, Registers.with(0, 63, 5, 56), 5, 56);
+        KnownBits empty = Registers.with(8, 5, 2, 12, 33, 2);
         Check.due("combine, empty set", empty.combine(2, 6, 0, 1), -2);
         Check.pattern("combine, empty set", empty, 0, 8, 5);
         Check.pattern("combine, empty set", empty, 1, 2, 12);
@@ -134,7 +111,7 @@ public final class PromisesTest {
     }
 
     private static void combineAliases() {
-        KnownBits apart = with(8, 2);
+        KnownBits apart = Registers.with(8, 2);
         Check.due("combine a = b, minus", apart.combine(1, 1, 0, 0), 0);
         Check.pattern("combine a = b, minus", apart, 1, 0, 62);
         Check.due("combine a = b, plus", apart.combine(1, 0, 0, 0), 0);
@@ -143,7 +120,7 @@ public final class PromisesTest {
         Check.pattern("combine a = b, xor", apart, 1, 0, 2);
         Check.due("combine a = b, both", apart.combine(1, 6, 0, 0), 0);
         Check.pattern("combine a = b, both", apart, 1, 8, 2);
-        KnownBits onto = with(5, 0, 3, 0);
+        KnownBits onto = Registers.with(5, 0, 3, 0);
         Check.due("combine onto a", onto.combine(0, 1, 0, 1), 0);
         Check.pattern("combine onto a", onto, 0, 2, 0);
         Check.due("combine onto b", onto.combine(1, 1, 0, 1), 0);
@@ -153,8 +130,8 @@ public final class PromisesTest {
     }
 
     private static void combineRefusals() {
-        KnownBits bits = sixPatterns();
-        for (int r : NO_REGISTERS) {
+        KnownBits bits = Registers.six();
+        for (int r : Registers.OUT_OF_RANGE) {
             for (int kind = 0; kind <= 6; kind++) {
                 Check.due("combine dst " + r, bits.combine(r, kind, 0, 1), -1);
                 Check.due("combine a " + r, bits.combine(0, kind, r, 1), -1);
@@ -164,13 +141,13 @@ public final class PromisesTest {
         for (int kind : new int[] {-1, 7, 8, MIN, MAX}) {
             Check.due("combine kind " + kind, bits.combine(0, kind, 1, 2), -1);
         }
-        sixPatternsStand("combine refused", bits);
+        Registers.sixStand("combine refused", bits);
     }
 
     // Promise 4
 
     private static void shifted(int value, int mask, int by, int wantValue, int wantMask) {
-        KnownBits bits = with(value, mask, 63, 0);
+        KnownBits bits = Registers.with(value, mask, 63, 0);
         String call = "shift " + value + "/" + mask + " by " + by;
         Check.due(call, bits.shift(1, 0, by), 0);
         Check.pattern(call, bits, 1, wantValue, wantMask);
@@ -198,21 +175,21 @@ public final class PromisesTest {
     }
 
     private static void shiftRefusals() {
-        KnownBits bits = sixPatterns();
-        for (int r : NO_REGISTERS) {
+        KnownBits bits = Registers.six();
+        for (int r : Registers.OUT_OF_RANGE) {
             Check.due("shift dst " + r, bits.shift(r, 0, 1), -1);
             Check.due("shift a " + r, bits.shift(0, r, 1), -1);
         }
         for (int by : new int[] {-7, 7, 32, -32, 38, MIN, MAX}) {
             Check.due("shift by " + by, bits.shift(0, 1, by), -1);
         }
-        sixPatternsStand("shift refused", bits);
+        Registers.sixStand("shift refused", bits);
     }
 
     // Promise 5
 
     private static void narrowed(int value, int mask, int low, int high, int wantValue, int wantMask) {
-        KnownBits bits = with(value, mask);
+        KnownBits bits = Registers.with(value, mask);
         String call = "narrow " + value + "/" + mask + " to " + low + ".." + high;
         Check.due(call, bits.narrow(0, low, high), 0);
         Check.pattern(call, bits, 0, wantValue, wantMask);
@@ -233,8 +210,8 @@ public final class PromisesTest {
     }
 
     private static void narrowRefusals() {
-        KnownBits bits = sixPatterns();
-        for (int r : NO_REGISTERS) {
+        KnownBits bits = Registers.six();
+        for (int r : Registers.OUT_OF_RANGE) {
             Check.due("narrow " + r, bits.narrow(r, 0, 63), -1);
             Check.due("narrow to nothing " + r, bits.narrow(r, 1, 0), -1);
         }
@@ -244,29 +221,29 @@ public final class PromisesTest {
         Check.due("narrow below 0", bits.narrow(1, MIN, -1), -2);
         Check.due("narrow turned", bits.narrow(4, 63, 0), -2);
         Check.due("narrow far turned", bits.narrow(4, MAX, MIN), -2);
-        sixPatternsStand("narrow refused", bits);
+        Registers.sixStand("narrow refused", bits);
     }
 
     // Promise 6
 
     private static void suppose() {
         // 8, 9, 12, 13 and 10, 11: only one side loses numbers.
-        KnownBits both = with(8, 5, 10, 1, 33, 4);
+        KnownBits both = Registers.with(8, 5, 10, 1, 33, 4);
         Check.due("suppose a < b", both.suppose(0, 1, 1), 0);
         Check.pattern("suppose a < b", both, 0, 8, 1);
         Check.pattern("suppose a < b", both, 1, 10, 1);
         Check.pattern("suppose leaves the rest", both, 2, 33, 4);
         // 0 .. 3 and 2, 3: both sides lose numbers, and 3 > 2 is all that is left.
-        KnownBits tight = with(0, 3, 2, 1);
+        KnownBits tight = Registers.with(0, 3, 2, 1);
         Check.due("suppose a > b", tight.suppose(0, 5, 1), 0);
         Check.pattern("suppose a > b", tight, 0, 3, 0);
         Check.pattern("suppose a > b", tight, 1, 2, 0);
-        KnownBits turned = with(2, 1, 0, 3);
+        KnownBits turned = Registers.with(2, 1, 0, 3);
         Check.due("suppose b < a", turned.suppose(1, 5, 0), 0);
         Check.pattern("suppose b < a", turned, 1, 3, 0);
         Check.pattern("suppose b < a", turned, 0, 2, 0);
         // 0, 4, 8, 12 and 5, 13: no number is common, so the bounds alone decide.
-        KnownBits loose = with(0, 12, 5, 8);
+        KnownBits loose = Registers.with(0, 12, 5, 8);
         Check.due("suppose a >= b", loose.suppose(0, 4, 1), 0);
         Check.pattern("suppose a >= b", loose, 0, 8, 4);
         Check.pattern("suppose a >= b", loose, 1, 5, 0);
@@ -280,31 +257,31 @@ public final class PromisesTest {
     }
 
     private static void supposeEveryComparison() {
-        supposed(0, with(8, 5, 1, 12), 9, 4, 9, 4);
-        supposed(1, with(0, 3, 0, 1), 0, 0, 1, 0);
-        supposed(2, with(0, 3, 0, 1), 0, 1, 0, 1);
-        supposed(3, with(4, 1, 5, 0), 4, 0, 5, 0);
-        supposed(3, with(5, 0, 4, 1), 5, 0, 4, 0);
-        supposed(3, with(4, 1, 4, 1), 4, 1, 4, 1);
-        supposed(4, with(0, 1, 0, 3), 0, 1, 0, 1);
-        supposed(5, with(0, 1, 0, 3), 1, 0, 0, 0);
+        supposed(0, Registers.with(8, 5, 1, 12), 9, 4, 9, 4);
+        supposed(1, Registers.with(0, 3, 0, 1), 0, 0, 1, 0);
+        supposed(2, Registers.with(0, 3, 0, 1), 0, 1, 0, 1);
+        supposed(3, Registers.with(4, 1, 5, 0), 4, 0, 5, 0);
+        supposed(3, Registers.with(5, 0, 4, 1), 5, 0, 4, 0);
+        supposed(3, Registers.with(4, 1, 4, 1), 4, 1, 4, 1);
+        supposed(4, Registers.with(0, 1, 0, 3), 0, 1, 0, 1);
+        supposed(5, Registers.with(0, 1, 0, 3), 1, 0, 0, 0);
         int[][] never = {{4, 5}, {5, 4}, {5, 4}, {4, 4}, {4, 5}, {4, 4}};
         for (int how = 0; how < 6; how++) {
-            KnownBits bits = with(never[how][0], 0, never[how][1], 0);
+            KnownBits bits = Registers.with(never[how][0], 0, never[how][1], 0);
             Check.due("suppose what never holds, " + how, bits.suppose(0, how, 1), -2);
             Check.pattern("suppose what never holds", bits, 0, never[how][0], 0);
             Check.pattern("suppose what never holds", bits, 1, never[how][1], 0);
         }
-        KnownBits wide = with(48, 3, 32, 7);
+        KnownBits wide = Registers.with(48, 3, 32, 7);
         Check.due("suppose wide never", wide.suppose(0, 2, 1), -2);
         Check.pattern("suppose wide never", wide, 0, 48, 3);
         Check.pattern("suppose wide never", wide, 1, 32, 7);
     }
 
     private static void supposeRefusals() {
-        KnownBits bits = sixPatterns();
+        KnownBits bits = Registers.six();
         for (int how = 0; how < 6; how++) {
-            for (int r : NO_REGISTERS) {
+            for (int r : Registers.OUT_OF_RANGE) {
                 Check.due("suppose a " + r, bits.suppose(r, how, 0), -1);
                 Check.due("suppose b " + r, bits.suppose(0, how, r), -1);
             }
@@ -315,7 +292,7 @@ public final class PromisesTest {
         for (int how : new int[] {-1, 6, 7, MIN, MAX}) {
             Check.due("suppose how " + how, bits.suppose(0, how, 1), -1);
         }
-        sixPatternsStand("suppose refused", bits);
+        Registers.sixStand("suppose refused", bits);
     }
 
     // Promise 7
@@ -327,7 +304,7 @@ public final class PromisesTest {
     }
 
     private static void compare() {
-        KnownBits bits = with(4, 0, 5, 0, 4, 1, 6, 1, 4, 0, 5, 2);
+        KnownBits bits = Registers.with(4, 0, 5, 0, 4, 1, 6, 1, 4, 0, 5, 2);
         compared(bits, 0, 1, 0, 1, 1, 1, 0, 0);
         compared(bits, 1, 0, 0, 0, 0, 1, 1, 1);
         compared(bits, 0, 4, 1, 0, 1, 0, 1, 0);
@@ -341,13 +318,13 @@ public final class PromisesTest {
         Check.pattern("compare changes nothing", bits, 2, 4, 1);
         Check.pattern("compare changes nothing", bits, 5, 5, 2);
         // Interleaved patterns without a common number: unlike for all, in order for some.
-        compared(with(0, 4, 2, 4), 0, 1, 0, 2, 2, 1, 2, 2);
+        compared(Registers.with(0, 4, 2, 4), 0, 1, 0, 2, 2, 1, 2, 2);
     }
 
     private static void compareRefusals() {
-        KnownBits bits = sixPatterns();
+        KnownBits bits = Registers.six();
         for (int how = 0; how < 6; how++) {
-            for (int r : NO_REGISTERS) {
+            for (int r : Registers.OUT_OF_RANGE) {
                 Check.due("compare a " + r, bits.compare(r, how, 0), -1);
                 Check.due("compare b " + r, bits.compare(0, how, r), -1);
             }
@@ -355,25 +332,25 @@ public final class PromisesTest {
         for (int how : new int[] {-1, 6, 7, MIN, MAX}) {
             Check.due("compare how " + how, bits.compare(0, how, 1), -1);
         }
-        sixPatternsStand("compare refused", bits);
+        Registers.sixStand("compare refused", bits);
     }
 
     // Promises 8 and 9
 
     private static void valueAndMask() {
-        KnownBits bits = sixPatterns();
-        for (int r : NO_REGISTERS) {
+        KnownBits bits = Registers.six();
+        for (int r : Registers.OUT_OF_RANGE) {
             Check.due("value " + r, bits.value(r), -1);
             Check.due("mask " + r, bits.mask(r), -1);
         }
-        sixPatternsStand("value and mask", bits);
-        sixPatternsStand("value and mask again", bits);
+        Registers.sixStand("value and mask", bits);
+        Registers.sixStand("value and mask again", bits);
     }
 
     // Promise 10
 
     private static void least() {
-        KnownBits bits = with(21, 42, 0, 63, 63, 0);
+        KnownBits bits = Registers.with(21, 42, 0, 63, 63, 0);
         int[][] rows = {
             {0, 0, 21}, {0, 21, 21}, {0, 22, 23}, {0, 24, 29}, {0, 30, 31}, {0, 32, 53}, {0, 62, 63},
             {0, 63, 63}, {0, 64, 64}, {0, MAX, 64}, {0, -1, 21}, {0, MIN, 21}, {1, MIN, 0}, {1, 40, 40},
@@ -383,7 +360,7 @@ public final class PromisesTest {
             Check.due("least " + row[0] + ", " + row[1], bits.least(row[0], row[1]), row[2]);
         }
         Check.pattern("least changes nothing", bits, 0, 21, 42);
-        for (int r : NO_REGISTERS) {
+        for (int r : Registers.OUT_OF_RANGE) {
             Check.due("least of no register " + r, bits.least(r, 0), -1);
             Check.due("least of no register, none " + r, bits.least(r, 64), -1);
         }
@@ -392,7 +369,7 @@ public final class PromisesTest {
     // Promise 11
 
     private static void count() {
-        KnownBits bits = with(21, 42, 0, 63, 63, 0);
+        KnownBits bits = Registers.with(21, 42, 0, 63, 63, 0);
         int[][] rows = {
             {0, 0, 63, 8}, {0, 21, 21, 1}, {0, 22, 22, 0}, {0, 22, 54, 4}, {0, 21, 63, 8}, {0, 22, 62, 6},
             {0, MIN, MAX, 8}, {0, MAX, MIN, 0}, {0, 63, 21, 0}, {0, 64, MAX, 0}, {0, MIN, -1, 0},
@@ -404,7 +381,7 @@ public final class PromisesTest {
             Check.due(call, bits.count(row[0], row[1], row[2]), row[3]);
         }
         Check.pattern("count changes nothing", bits, 0, 21, 42);
-        for (int r : NO_REGISTERS) {
+        for (int r : Registers.OUT_OF_RANGE) {
             Check.due("count of no register " + r, bits.count(r, 0, 63), -1);
             Check.due("count of no register, none " + r, bits.count(r, 1, 0), -1);
         }
